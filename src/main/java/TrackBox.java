@@ -213,7 +213,7 @@ public final class TrackBox {
 
     public int lies() {
         walk.follow(now.letters, now.pieces);
-        return yes(now.bears(walk));
+        return yes(now.firstOff(walk) == NONE && walk.firstTouch() == NONE);
     }
 
     public int rings(int n, boolean lie) {
@@ -417,7 +417,7 @@ public final class TrackBox {
         }
 
         static long place(long xWhole, long xRoot, long yWhole, long yRoot) {
-            return (((xWhole << 16) + xRoot << 16) + yWhole << 16) + yRoot;
+            return (xWhole << 48) + (xRoot << 32) + (yWhole << 16) + yRoot;
         }
 
         /** The part 0 WHOLE of x, 1 ROOT of x, 2 WHOLE of y, 3 ROOT of y. */
@@ -517,10 +517,6 @@ public final class TrackBox {
             return NONE;
         }
 
-        boolean bears(Walk walk) {
-            return firstOff(walk) == NONE && walk.firstTouch() == NONE;
-        }
-
         int firstOff(Walk walk) {
             for (int i = 0; i <= walk.last; i++) {
                 long place = placeAt(walk.places, i);
@@ -532,13 +528,14 @@ public final class TrackBox {
         }
 
         private boolean isOnTable(long place) {
-            return isBetween(Numbers.part(place, 0), Numbers.part(place, 1), LEFT, RIGHT)
-                    && isBetween(Numbers.part(place, 2), Numbers.part(place, 3), UNDER, ABOVE);
-        }
-
-        private boolean isBetween(int whole, int root, int from, int to) {
-            return Numbers.signOf(whole - at(sides, from), root) >= 0
-                    && Numbers.signOf(whole - at(sides, to), root) <= 0;
+            int x = Numbers.part(place, 0);
+            int xRoot = Numbers.part(place, 1);
+            int y = Numbers.part(place, 2);
+            int yRoot = Numbers.part(place, 3);
+            return Numbers.signOf(x - at(sides, LEFT), xRoot) >= 0
+                    && Numbers.signOf(x - at(sides, RIGHT), xRoot) <= 0
+                    && Numbers.signOf(y - at(sides, UNDER), yRoot) >= 0
+                    && Numbers.signOf(y - at(sides, ABOVE), yRoot) <= 0;
         }
 
         private boolean isAtLeg(long place) {
@@ -560,7 +557,7 @@ public final class TrackBox {
         }
 
         static int turned(int direction, int letter) {
-            return direction + at(TURN_OF, letter) & DIRECTIONS - 1;
+            return (direction + at(TURN_OF, letter)) & (DIRECTIONS - 1);
         }
 
         void measure(int[] sizes) {
@@ -649,7 +646,7 @@ public final class TrackBox {
      * head; all tails are kept by the end that a head must have for the ring to close.
      */
     private static final class RingSearch {
-        static final int ALL = Integer.MAX_VALUE;
+        static final int ALL = 1000000000;
         private static final int TAIL = 3;
         private static final int TAILS = 1000;
         private static final int SLOTS = 1024;
@@ -720,7 +717,7 @@ public final class TrackBox {
             }
             if (lie) {
                 walk.follow(letters, n);
-                if (!layout.bears(walk)) {
+                if (layout.firstOff(walk) != NONE || walk.firstTouch() != NONE) {
                     return;
                 }
             }
@@ -821,7 +818,7 @@ public final class TrackBox {
 
         private static int slotOf(long end) {
             long mixed = end * 2654435761L;
-            return (int) (mixed >>> 40) & SLOTS - 1;
+            return (int) (mixed >>> 40) & (SLOTS - 1);
         }
     }
 
