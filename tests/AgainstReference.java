@@ -333,25 +333,27 @@ public final class AgainstReference {
         int[][] joints(String r) {
             int[][] all = new int[r.length() + 1][5];
             for (int i = 0; i < r.length(); i++) {
-                int[] at = all[i].clone();
-                int letter = r.charAt(i) - 'A';
-                int length = 2 * sizes[KIND.charAt(letter) - '0'];
-                int turn = TURN[letter];
-                int to = at[4] + turn;
-                if (turn == 0) {
-                    go(at, at[4], length);
-                } else if (turn > 0) {
-                    // From the beginning to the middle of the ring, and out again.
-                    go(at, at[4] + 2, length);
-                    go(at, to - 2, length);
-                } else {
-                    go(at, at[4] - 2, length);
-                    go(at, to + 2, length);
-                }
-                at[4] = Math.floorMod(to, 8);
-                all[i + 1] = at;
+                all[i + 1] = all[i].clone();
+                lead(all[i + 1], r.charAt(i) - 'A');
             }
             return all;
+        }
+
+        private void lead(int[] at, int letter) {
+            int length = 2 * sizes[KIND.charAt(letter) - '0'];
+            int turn = TURN[letter];
+            int to = at[4] + turn;
+            if (turn == 0) {
+                go(at, at[4], length);
+            } else if (turn > 0) {
+                // From the beginning to the middle of the ring, and out again.
+                go(at, at[4] + 2, length);
+                go(at, to - 2, length);
+            } else {
+                go(at, at[4] - 2, length);
+                go(at, to + 2, length);
+            }
+            at[4] = Math.floorMod(to, 8);
         }
 
         private static void go(int[] at, int direction, int length) {
@@ -370,8 +372,14 @@ public final class AgainstReference {
             return parts(joints(row)[i])[what];
         }
 
+        private int[] end(String r) {
+            int[] at = new int[5];
+            for (int i = 0; i < r.length(); i++) lead(at, r.charAt(i) - 'A');
+            return at;
+        }
+
         boolean closed(String r) {
-            return r.length() > 0 && Arrays.equals(joints(r)[r.length()], new int[5]);
+            return r.length() > 0 && Arrays.equals(end(r), new int[5]);
         }
 
         int closes() {
@@ -393,6 +401,8 @@ public final class AgainstReference {
         private static final BigDecimal ROOT = new BigDecimal(2).sqrt(new MathContext(60));
 
         static int exactSign(long whole, long root) {
+            double about = whole + root * Math.sqrt(2);
+            if (Math.abs(about) > 0.001) return about > 0 ? 1 : -1;
             return new BigDecimal(whole).add(new BigDecimal(root).multiply(ROOT)).signum();
         }
 
@@ -402,7 +412,7 @@ public final class AgainstReference {
         }
 
         int[] gapParts(String r) {
-            int[] p = parts(joints(r)[r.length()]);
+            int[] p = parts(end(r));
             return new int[] {p[0] * p[0] + 2 * p[1] * p[1] + p[2] * p[2] + 2 * p[3] * p[3], 2 * p[0] * p[1] + 2 * p[2] * p[3]};
         }
 
@@ -479,20 +489,26 @@ public final class AgainstReference {
             return lying(row) ? 1 : 0;
         }
 
-        /** All rows of n that use no more than told, by letters. */
+        /** All rows of n that use no more than told and end in direction 0, by letters. */
         List<String> rows(int n, int[] there) {
             List<String> all = new ArrayList<>();
-            grow("", n, there, all);
+            grow("", 0, n, there.clone(), all);
             return all;
         }
 
-        private void grow(String start, int n, int[] there, List<String> all) {
+        private void grow(String start, int turned, int n, int[] left, List<String> all) {
             if (start.length() == n) {
-                all.add(start);
+                if (turned % 8 == 0) all.add(start);
                 return;
             }
-            for (char c = 'A'; c <= 'J'; c++) {
-                if (used(start + c, there)) grow(start + c, n, there, all);
+            for (int letter = 0; letter < 10; letter++) {
+                int kind = KIND.charAt(letter) - '0';
+                boolean ends = start.length() + 1 < n || (turned + TURN[letter]) % 8 == 0;
+                if (ends && left[kind] > 0) {
+                    left[kind]--;
+                    grow(start + (char) ('A' + letter), turned + TURN[letter], n, left, all);
+                    left[kind]++;
+                }
             }
         }
 
@@ -519,25 +535,13 @@ public final class AgainstReference {
 
         TreeSet<String> all(int n, boolean lie, int[] there) {
             TreeSet<String> first = new TreeSet<>();
-            grow("", n, there, lie, first);
-            return first;
-        }
-
-        /** As rows() does, but keeps no row that does not close. */
-        private void grow(String start, int n, int[] there, boolean lie, TreeSet<String> first) {
-            if (start.length() == n) {
-                if (closed(start)) {
-                    String least = alike(start).first();
+            for (String r : rows(n, there)) {
+                if (closed(r)) {
+                    String least = alike(r).first();
                     if (!lie || lying(least)) first.add(least);
                 }
-                return;
             }
-            int turned = 0;
-            for (int i = 0; i < start.length(); i++) turned += TURN[start.charAt(i) - 'A'];
-            for (char c = 'A'; c <= 'J'; c++) {
-                boolean ends = start.length() + 1 < n || (turned + TURN[c - 'A']) % 8 == 0;
-                if (ends && used(start + c, there)) grow(start + c, n, there, lie, first);
-            }
+            return first;
         }
 
         TreeSet<String> all(int n, boolean lie) {
@@ -590,9 +594,7 @@ public final class AgainstReference {
             if (n > 5) return refuse(-6);
             String best = null;
             for (String r : rows(n, many)) {
-                int turned = 0;
-                for (int i = 0; i < n; i++) turned += TURN[r.charAt(i) - 'A'];
-                if (turned % 8 != 0 || closed(r)) continue;
+                if (closed(r)) continue;
                 if (best == null || exactSign(gapParts(r)[0] - gapParts(best)[0], gapParts(r)[1] - gapParts(best)[1]) < 0) best = r;
             }
             if (best == null) return -9;
