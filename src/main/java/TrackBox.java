@@ -841,7 +841,7 @@ public final class TrackBox {
         boolean findsNearest(int n) {
             copyAll(layout.many, left);
             found = false;
-            layNear(0, Math.min(n, MOST_NEAR), 0L, 0, false);
+            layNear(this, 0, Math.min(n, MOST_NEAR), 0L, 0, false);
             return found;
         }
 
@@ -855,14 +855,14 @@ public final class TrackBox {
                 return 0;
             }
             copyAll(layout.many, left);
-            return layTurns(0, Math.min(n, MOST_TURNS), 0L, 0, turns);
+            return layTurns(this, 0, Math.min(n, MOST_TURNS), 0L, 0, turns);
         }
 
         /**
          * Lays piece i of n and all behind it. A row's mirrored one has the same gap: so the first
          * bend is one to the left, which comes first by letters.
          */
-        private void layNear(int i, int n, long place, int direction, boolean bent) {
+        private static void layNear(Trial trial, int i, int n, long place, int direction, boolean bent) {
             int back = Math.min(direction, DIRECTIONS - direction);
             if (i >= n || back > SHARPEST * (n - i)) {
                 return;
@@ -870,16 +870,16 @@ public final class TrackBox {
             for (int letter = 0; letter < LETTERS; letter++) {
                 int kind = at(KIND_OF, letter);
                 int turn = at(TURN_OF, letter);
-                if (at(left, kind) > 0 && (bent || turn >= 0)) {
-                    long there = place + moves.step(direction, letter);
+                if (at(trial.left, kind) > 0 && (bent || turn >= 0)) {
+                    long there = place + trial.moves.step(direction, letter);
                     int heading = Moves.turned(direction, letter);
-                    put(letters, i, letter);
+                    put(trial.letters, i, letter);
                     if (i + 1 < n) {
-                        put(left, kind, at(left, kind) - 1);
-                        layNear(i + 1, n, there, heading, bent || turn != 0);
-                        put(left, kind, at(left, kind) + 1);
+                        put(trial.left, kind, at(trial.left, kind) - 1);
+                        layNear(trial, i + 1, n, there, heading, bent || turn != 0);
+                        put(trial.left, kind, at(trial.left, kind) + 1);
                     } else if (heading == 0 && there != 0) {
-                        keepIfNearer(there);
+                        trial.keepIfNearer(there);
                     }
                 }
             }
@@ -897,18 +897,18 @@ public final class TrackBox {
         }
 
         /** Lays piece i of n and all behind it by their turns: how many rows close. */
-        private int layTurns(int i, int n, long place, int direction, int[] turns) {
+        private static int layTurns(Trial trial, int i, int n, long place, int direction, int[] turns) {
             if (i >= n) {
                 return place == 0 && direction == 0 ? 1 : 0;
             }
             int rows = 0;
             for (int letter = 0; letter < LETTERS; letter++) {
                 int kind = at(KIND_OF, letter);
-                if (at(TURN_OF, letter) == at(turns, i) && at(left, kind) > 0) {
-                    long there = place + moves.step(direction, letter);
-                    put(left, kind, at(left, kind) - 1);
-                    rows += layTurns(i + 1, n, there, Moves.turned(direction, letter), turns);
-                    put(left, kind, at(left, kind) + 1);
+                if (at(TURN_OF, letter) == at(turns, i) && at(trial.left, kind) > 0) {
+                    long there = place + trial.moves.step(direction, letter);
+                    put(trial.left, kind, at(trial.left, kind) - 1);
+                    rows += layTurns(trial, i + 1, n, there, Moves.turned(direction, letter), turns);
+                    put(trial.left, kind, at(trial.left, kind) + 1);
                 }
             }
             return rows;
