@@ -50,6 +50,7 @@ public final class BoundsOfPlaces {
         touchesFirstJoint();
         touchesHome();
         touchesCrossings();
+        touchesThreeCrossings();
         touchesWhatComesBehind();
         touchesAtTheBeginningByCrossings();
         touchesOf24();
@@ -669,6 +670,23 @@ public final class BoundsOfPlaces {
         x.size(6, 4);
         Check.lay(x, "bxaqqqxa");
         Check.due("touches() of bxaqqqxa", x.touches(), -9);
+    }
+
+    private static void touchesThreeCrossings() {
+        Check.sentence("TOUCHES: none, if CROSSINGS lead to each of three");
+        TrackBox x = new TrackBox();
+        Check.sizes(x, 6, 2, 4, 4, 6, 4, 4);
+        Check.lay(x, "xassssssbxctttx");
+        Check.dueJoint(x, 1, 8, 0, 0, 0, 0);
+        Check.dueJoint(x, 10, 8, 0, 0, 0, 2);
+        Check.dueJoint(x, 15, 8, 0, 0, 0, 4);
+        Check.due("touches() of three CROSSINGS", x.touches(), -9);
+        Check.lay(x, "xassssssbxctttc");
+        Check.due("touches() of a straight as the third", x.touches(), 15);
+        Check.lay(x, "xassssssbcctttx");
+        Check.due("touches() of a straight as the second", x.touches(), 10);
+        Check.lay(x, "cassssssbxctttx");
+        Check.due("touches() of a straight as the first", x.touches(), 10);
     }
 
     private static void touchesWhatComesBehind() {
